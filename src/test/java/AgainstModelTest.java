@@ -31,6 +31,7 @@ public final class AgainstModelTest {
             for (int call = 0; call < CALLS; call++) {
                 one.callOne();
             }
+            one.manyByHand();
         }
         check.end();
     }
@@ -141,6 +142,22 @@ public final class AgainstModelTest {
         }
         for (int what = 0; what < 3; what++) {
             due("count " + what, x.count(what), y.count(what));
+        }
+    }
+
+    private void manyByHand() {
+        for (int i = random.nextInt(60); i > 0; i--) {
+            int at = x.count(1) > 8 ? 0 : random.nextInt(x.count(1) + 1);
+            int target = random.nextInt(Math.max(wires, 1));
+            int on = controls(target);
+            boolean takes = x.count(1) > 8 || random.nextInt(3) == 0;
+            due("many", takes ? x.take(at) : x.put(at, target, on, 0),
+                takes ? y.take(at) : y.put(at, target, on, 0));
+        }
+        for (int i = random.nextInt(60); i > 0; i--) {
+            due("undo of many", x.undo(), y.undo());
+            due("cost of many", x.count(2), y.count(2));
+            due("made of many", x.made(0, x.count(1)), y.made(0, y.count(1)));
         }
     }
 

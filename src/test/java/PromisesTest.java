@@ -220,6 +220,24 @@ public final class PromisesTest {
         due("10 the 41st", x.undo(), false);
         x.put(0, 0, 0, 0);
         due("10 undone ones don't come again", x.count(7), 1);
+        theOldestGoes();
+    }
+
+    /** 100 things done, each of which makes another cascade: the last 40 come back one by one. */
+    private static void theOldestGoes() {
+        BackLogic x = Check.told(ABCD + "gate a;");
+        for (int i = 0; i < 50; i++) {
+            x.take(0);
+            x.put(0, 0, 2 * (i % 8), 0);
+        }
+        for (int i = 49; i >= 30; i--) {
+            gates("10 behind put " + i, x, 0, 2 * (i % 8), 0);
+            due("10 undo put " + i, x.undo(), true);
+            due("10 ahead of put " + i, x.count(1), 0);
+            due("10 undo take " + i, x.undo(), true);
+        }
+        gates("10 the oldest that came back", x, 0, 2 * (29 % 8), 0);
+        due("10 no 41st of them", x.undo(), false);
     }
 
     private static void promise11Gate() {
