@@ -2,8 +2,9 @@ import java.util.Random;
 
 /** Long runs of calls, the same ones on the class and on the plain model of the document. */
 public final class AgainstModelTest {
-    private static final int RUNS = 150;
-    private static final int CALLS = 500;
+    private static final int RUNS = 400;
+    // What an object answers behind its 512th call is not promised.
+    private static final int CALLS = 480;
     private static final int[] WILD = {
         Integer.MIN_VALUE, -3, -2, -1, 0, 1, 2, 3, 4, 7, 8, 15, 16, 17, 63, 64, 400, 2000, 2001,
         Integer.MAX_VALUE - 1, Integer.MAX_VALUE
@@ -16,6 +17,7 @@ public final class AgainstModelTest {
     private final Check check;
     private final int run;
     private int wires;
+    private int calls;
 
     private AgainstModelTest(int run, Check check) {
         this.run = run;
@@ -28,10 +30,12 @@ public final class AgainstModelTest {
         for (int run = 0; run < RUNS; run++) {
             AgainstModelTest one = new AgainstModelTest(run, check);
             one.tell();
-            for (int call = 0; call < CALLS; call++) {
+            if (run % 4 == 0) {
+                one.manyByHand();
+            }
+            while (one.calls < CALLS) {
                 one.callOne();
             }
-            one.manyByHand();
         }
         check.end();
     }
@@ -101,10 +105,12 @@ public final class AgainstModelTest {
     }
 
     private void due(String call, long got, long want) {
+        calls++;
         check.due("run " + run + ": " + call, got, want);
     }
 
     private void due(String call, boolean got, boolean want) {
+        calls++;
         check.due("run " + run + ": " + call, got, want);
     }
 
@@ -128,7 +134,7 @@ public final class AgainstModelTest {
         int off = controls(target & 3) & ~(random.nextInt(20) == 0 ? 0 : on);
         switch (random.nextInt(9)) {
             case 0, 1, 2 -> {
-                int at = random.nextInt(4) == 0 ? a : random.nextInt(x.count(1) + 1);
+                int at = random.nextInt(4) == 0 ? a : random.nextInt(y.count(1) + 1);
                 due("put " + at + " " + target + " " + on + " " + off,
                     x.put(at, target, on, off), y.put(at, target, on, off));
             }
@@ -147,17 +153,18 @@ public final class AgainstModelTest {
 
     private void manyByHand() {
         for (int i = random.nextInt(60); i > 0; i--) {
-            int at = x.count(1) > 8 ? 0 : random.nextInt(x.count(1) + 1);
+            int size = y.count(1);
+            int at = size > 8 ? 0 : random.nextInt(size + 1);
             int target = random.nextInt(Math.max(wires, 1));
             int on = controls(target);
-            boolean takes = x.count(1) > 8 || random.nextInt(3) == 0;
+            boolean takes = size > 8 || random.nextInt(3) == 0;
             due("many", takes ? x.take(at) : x.put(at, target, on, 0),
                 takes ? y.take(at) : y.put(at, target, on, 0));
         }
         for (int i = random.nextInt(60); i > 0; i--) {
             due("undo of many", x.undo(), y.undo());
             due("cost of many", x.count(2), y.count(2));
-            due("made of many", x.made(0, x.count(1)), y.made(0, y.count(1)));
+            due("made of many", x.made(0, y.count(1)), y.made(0, y.count(1)));
         }
     }
 
@@ -183,7 +190,7 @@ public final class AgainstModelTest {
         }
         if (random.nextInt(3) == 0) {
             due("read", x.read(), y.read());
-            wires = x.count(0);
+            wires = y.count(0);
         }
         due("place", x.place(), y.place());
     }

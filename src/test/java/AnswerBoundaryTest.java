@@ -32,6 +32,7 @@ public final class AnswerBoundaryTest {
         orderWithin();
         timesOnceAtLeast();
         agreeWithin();
+        agreeOfEachRow();
         shrunkWithin();
         shrunkFromAllToNone();
         shrunkFirstThatCan();
@@ -55,6 +56,7 @@ public final class AnswerBoundaryTest {
         likeWays();
         tableWithin();
         tableGarbage();
+        tableFound();
         laidWithin();
         laidIsAnOrder();
         offWithin();
@@ -271,7 +273,21 @@ public final class AnswerBoundaryTest {
         BackLogic x = some(16);
         for (int i = 0; i < 16; i++) {
             due("15 itself", x.agree(i, i), 1);
+            due("15 one alike", x.agree(i, (i + 4) % 16), 1);
         }
+    }
+
+    /** "if in either order they make the same of each ROW": of each one, not of most. */
+    private static void agreeOfEachRow() {
+        // Of sixteen rows only 14 and 15 tell a by b c d and b by a c d apart.
+        BackLogic x = Check.told(ABCD + "gate a b c d;gate b a c d;gate b a -c d;gate a b;gate a -b;gate c;");
+        due("15 one row of each", x.agree(0, 1), 0);
+        due("15 either order", x.agree(1, 0), 0);
+        due("15 never both, though each has the other's target", x.agree(0, 2), 1);
+        due("15 never both, the other order", x.agree(2, 0), 1);
+        due("15 the same target", x.agree(3, 4), 1);
+        due("15 no wire of both", x.agree(3, 5), 1);
+        due("15 a control is turned", x.agree(0, 5), 0);
     }
 
     // ---- promise 16
@@ -759,6 +775,29 @@ public final class AnswerBoundaryTest {
         tables("3 1 1 1 1 1 1 1 1 0", 3, 1, 7, 3, 4, 1);
         tables("3 1 1 1 1 1 1 1 1 1", 3, 1, 8, 3, 4, 1);
         tables("3 3 7 7 7 7 7 7 7 7", 3, 3, 8, 3, 6, 3);
+    }
+
+    /** "6 how many GATES FOUND AHEAD, 7 FROM BOTH ENDS, for LAID": none, few, far more than sixteen. */
+    private static void tableFound() {
+        tables("2 2 0 1 2 3", 2, 2, 1, 0, 2, 0, 0, 0);
+        // LAID is 3 0 1 2. Ahead, row 0: a by b, b; row 1: a by b, b by a. From both, row 0: a ahead, as
+        // 0 is made of 1; row 1: b by a.
+        tables("2 2 3 0 1 2", 2, 2, 1, 0, 2, 0, 4, 2);
+        String[] many = {
+            "1 3 7 7", "3 2 0 1 1 2 1 2 2 3", "3 3 7 7 7 7 7 7 7 7", "3 3 6 0 6 6 6 6 6 6", "3 3 1 0 0 0 1 0 0 1"
+        };
+        for (String text : many) {
+            PlainModel plain = new PlainModel();
+            String line = "table " + text + ";" + " ".repeat(20);
+            for (int from = 0; from < line.length() - 20; from += 20) {
+                plain.feed(Check.words(line, from));
+            }
+            due("24 plain read of " + text, plain.read(), 0);
+            BackLogic x = Check.told("table " + text + ";");
+            due("24 ahead for " + text, x.table(6), plain.table(6));
+            due("24 both for " + text, x.table(7), plain.table(7));
+        }
+        due("24 the most", Check.told("table 3 3 6 0 6 6 6 6 6 6;").table(6), 188);
     }
 
     /** "What is made of a ROW in LAID; NONE: no such one": of 1 to 6 lines. */

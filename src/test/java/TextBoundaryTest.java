@@ -159,6 +159,15 @@ public final class TextBoundaryTest {
         right("wire a;wire aa;wire aaaaaaaa;wire z;gate a aa aaaaaaaa z;");
         fault("wire aaaaaaaa;gate aaaaaaa;", 4, 19);
         fault("wire azzzzzzz;gate bzzzzzzz;", 4, 19);
+        // Names are alike only if all their letters are.
+        for (char letter = 'a'; letter <= 'z'; letter++) {
+            String one = String.valueOf(letter);
+            right("wire " + one + ";wire " + one.repeat(2) + ";wire " + one.repeat(7) + ";wire " + one.repeat(8) + ";");
+            fault("wire " + one.repeat(7) + ";gate " + one.repeat(8) + ";", 4, 18);
+            if (letter < 'z') {
+                right("wire " + one + "z;wire " + (char) (letter + 1) + "a;wire z" + one + ";");
+            }
+        }
     }
 
     /** "none of the words in quotes" */
@@ -303,6 +312,10 @@ public final class TextBoundaryTest {
         CHECK.due("sixteen gates", x.count(1), 16);
         for (int gate = 0; gate < 16; gate++) {
             CHECK.due("gates as they stand", x.gate(gate, 0), gate % 4);
+        }
+        BackLogic early = Check.told("gate c;gate a;wire a;wire b;wire c;gate b;");
+        for (int gate = 0; gate < 3; gate++) {
+            CHECK.due("gates ahead of their wires", early.gate(gate, 0), (gate + 2) % 3);
         }
         CHECK.due("fifteen gates", Check.told(ABCD + sixteen.substring(7)).count(1), 15);
         fault(ABCD + sixteen + "gate a;", 2, 28 + 112);

@@ -3,6 +3,8 @@ import java.util.Random;
 /** Promises 2 to 5: the tape, texts and their faults, by hand and against the plain model. */
 public final class TextTest {
     private static final int RANDOM_TEXTS = 60000;
+    // A text is 100 calls and some looks at most: so many stay under the 512 that are promised.
+    private static final int TEXTS_AN_OBJECT = 3;
     private static final String ABCD = "wire a;wire b;wire c;wire d;";
     private static final Check CHECK = new Check("TextTest");
 
@@ -291,6 +293,10 @@ public final class TextTest {
         BackLogic x = new BackLogic();
         PlainModel y = new PlainModel();
         for (int i = 0; i < RANDOM_TEXTS; i++) {
+            if (i % TEXTS_AN_OBJECT == 0) {
+                x = new BackLogic();
+                y = new PlainModel();
+            }
             String text = randomText(random);
             Check.feedAll(x, text);
             for (int from = 0; from < text.length(); from += 20) {
