@@ -1,3 +1,5 @@
+import java.util.ArrayList;
+import java.util.List;
 import java.util.function.IntUnaryOperator;
 
 /**
@@ -15,7 +17,7 @@ public final class AnswerBoundaryTest {
     private static final String ABCD = ABC + "wire d;";
     private static final String SIXTEEN_ALIKE = "wire a;" + "gate a;".repeat(16);
     // Sixteen gates that no rule shrinks.
-    private static final String SIXTEEN_FAST = ABCD + "gate c b -d;gate d -b c;gate d -a b -c;gate c b;"
+    private static final String SIXTEEN_FIRM = ABCD + "gate c b -d;gate d -b c;gate d -a b -c;gate c b;"
         + "gate b -a c -d;gate b -a d;gate a -b c;gate a -b -d;gate d -a b c;gate c -a b;gate d a c;gate d -c;"
         + "gate c -a d;gate b c d;gate d;gate a c -d;";
     // Takes eight gates that are ON at least.
@@ -64,6 +66,7 @@ public final class AnswerBoundaryTest {
         countWithin();
         countGates();
         countCost();
+        nothingLeftOfTheTextAhead();
         CHECK.end();
     }
 
@@ -196,7 +199,7 @@ public final class AnswerBoundaryTest {
                 due("13 back", x.undone(row), wires > 0 ? row ^ 1 : row);
             }
         }
-        BackLogic x = Check.told(SIXTEEN_FAST);
+        BackLogic x = Check.told(SIXTEEN_FIRM);
         for (int row = 0; row < 16; row++) {
             due("13 there and back", x.undone(x.made(row, 16)), row);
         }
@@ -327,10 +330,10 @@ public final class AnswerBoundaryTest {
         shrinks("wire a;gate a;", 0, 0, 0);
         shrinks(SIXTEEN_ALIKE);
         shrinks("wire a;" + "gate a;".repeat(15), 0, 0, 0);
-        BackLogic fast = Check.told(SIXTEEN_FAST);
-        due("16 sixteen stay", fast.shrunk(NONE, 0), 16);
-        due("16 the 16th", fast.shrunk(15, 0), 0);
-        due("16 no 17th", fast.shrunk(16, 0), NONE);
+        BackLogic firm = Check.told(SIXTEEN_FIRM);
+        due("16 sixteen stay", firm.shrunk(NONE, 0), 16);
+        due("16 the 16th", firm.shrunk(15, 0), 0);
+        due("16 no 17th", firm.shrunk(16, 0), NONE);
         // All eight gates with three controls: by rule 2 to four, to two, to one without any.
         shrinks(ABCD + "gate a b c d;gate a b c -d;gate a b -c d;gate a b -c -d;"
             + "gate a -b c d;gate a -b c -d;gate a -b -c d;gate a -b -c -d;", 0, 0, 0);
@@ -891,7 +894,7 @@ public final class AnswerBoundaryTest {
 
     /** "NONE for others." */
     private static void countWithin() {
-        for (String text : new String[] {"", ABCD, SIXTEEN_FAST, SIXTEEN_ALIKE}) {
+        for (String text : new String[] {"", ABCD, SIXTEEN_FIRM, SIXTEEN_ALIKE}) {
             BackLogic x = Check.told(text);
             within("29 what", 0, 16, x::count);
         }
@@ -907,7 +910,7 @@ public final class AnswerBoundaryTest {
             counts(ABCD + "gate d -a -b -c;"), {1, 1, 15, 3, 65535, 1},
             counts(SIXTEEN_ALIKE), {16, 65535, 1, 0, 3, 1},
             counts(ABCD + "gate d a -b c;".repeat(16)), {16, 65535, 15, 48, 65535, 1},
-            counts(SIXTEEN_FAST), {16, 0, 15, 31, 65535, 16},
+            counts(SIXTEEN_FIRM), {16, 0, 15, 31, 65535, 16},
             counts(AB + "gate a b;gate a -b;gate a;gate a b;"), {4, 15, 3, 3, 15, 3},
             counts(ABC + "gate a;gate b a;gate c;"), {3, 4, 7, 1, 255, 3}
         };
@@ -935,5 +938,56 @@ public final class AnswerBoundaryTest {
         }
         due("29 cost of each once", x.count(2), 154);
         due("29 first prices", Check.told(ABCD + "gate a;gate a b;gate a b -c;gate a -b -c -d;").count(2), 20);
+    }
+
+    // ---- texts one behind the other
+
+    /** Each call that looks at the cascade or the table, once or a few times. */
+    private static List<Integer> looks(BackLogic x) {
+        List<Integer> answers = new ArrayList<>();
+        x.hold(1);
+        for (int what = 0; what <= 4; what++) {
+            answers.add(x.order(what));
+            answers.add(x.count(2 + what));
+            answers.add(x.count(12 + what));
+            answers.add(x.table(3 + what));
+            answers.add(x.terms(what));
+            answers.add(x.gate(what, what + 2));
+        }
+        for (int i = -1; i <= 3; i++) {
+            answers.add(x.test(i));
+            answers.add(x.idle(i));
+            answers.add(x.shrunk(i, 1));
+            answers.add(x.found(false, i, 1));
+            answers.add(x.found(true, i, 1));
+            answers.add(x.least(i, 1));
+            answers.add(x.undone(i));
+            answers.add(x.laid(i));
+            answers.add(x.like(i));
+            answers.add(x.off(i));
+            answers.add(x.stuck(i, 0, true));
+        }
+        return answers;
+    }
+
+    /** "else it is in place of the one ahead": what many wires and gates left behind shows nowhere. */
+    private static void nothingLeftOfTheTextAhead() {
+        String[] gates = {"", "gate a;", "gate a -b;gate b;", "gate c a;gate a -b -c;gate b;gate c b;", "gate d -a;"};
+        String[] tables = {"", "table 1 1 1 1;"};
+        for (int wires = 0; wires <= 4; wires++) {
+            for (String table : tables) {
+                String text = wires(wires) + gates[wires] + table;
+                for (String ahead : new String[] {SIXTEEN_FIRM, EIGHT, SIXTEEN_ALIKE}) {
+                    BackLogic x = Check.told(ahead + "table 3 3 6 0 6 6 6 6 6 6;price 9 9 9 9;");
+                    looks(x);
+                    due("behind another text: " + text, Check.read(x, text), 0);
+                    List<Integer> got = looks(x);
+                    List<Integer> want = looks(Check.told(text));
+                    for (int i = 0; i < want.size(); i++) {
+                        due("behind another text: " + text + ", look " + i, got.get(i), want.get(i));
+                    }
+                }
+            }
+        }
     }
 }

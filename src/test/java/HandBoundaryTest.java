@@ -25,6 +25,7 @@ public final class HandBoundaryTest {
         becomeOfMoreThanSixteen();
         becomeLeastOfFourWires();
         becomeOfNothing();
+        becomeTurnedRound();
         becomeTheSame();
         undoLastForty();
         undoGoesRound();
@@ -312,6 +313,17 @@ public final class HandBoundaryTest {
         due("9 sixteen shrunk", full.become(0), 0);
         due("9 undone", full.undo(), true);
         due("9 sixteen again", full.count(1), MOST_GATES);
+    }
+
+    /** "turned round (the last GATE first)", of an odd and an even number of gates. */
+    private static void becomeTurnedRound() {
+        for (int size = 0; size <= MOST_GATES; size++) {
+            BackLogic x = gates(3, size);
+            due("9 turned round", x.become(3), size);
+            for (int i = 0; i < size; i++) {
+                due("9 turned gate " + i + " of " + size, x.gate(i, 0), (size - 1 - i) % 3);
+            }
+        }
     }
 
     /** What becomes as it was is a thing done by hand all the same. */
