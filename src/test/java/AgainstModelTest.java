@@ -203,13 +203,19 @@ public final class AgainstModelTest {
         boolean flag = random.nextBoolean();
         String of = " " + i + " " + what + " " + row + " " + wire + " " + flag;
         switch (kind) {
-            case 0 -> due("gate" + of, x.gate(i, what), y.gate(i, what));
+            case 0 -> {
+                int part = some(7);
+                due("gate " + part + of, x.gate(i, part), y.gate(i, part));
+            }
             case 1 -> due("made" + of, x.made(row, i), y.made(row, i));
             case 2 -> due("undone" + of, x.undone(row), y.undone(row));
             case 3 -> due("order" + of, x.order(what + wire), y.order(what + wire));
             case 4 -> due("agree" + of, x.agree(i, row), y.agree(i, row));
             case 5 -> due("shrunk" + of, x.shrunk(i, what), y.shrunk(i, what));
-            case 6 -> due("found" + of, x.found(flag, i, what), y.found(flag, i, what));
+            case 6 -> {
+                int k = i < 0 ? i : some(40);
+                due("found " + k + of, x.found(flag, k, what), y.found(flag, k, what));
+            }
             case 7 -> due("least" + of, x.least(i, what), y.least(i, what));
             case 8 -> due("stuck" + of, x.stuck(row, wire, flag), y.stuck(row, wire, flag));
             case 9 -> due("terms" + of, x.terms(wire), y.terms(wire));
